@@ -181,11 +181,38 @@ public final class HouseTest {
         Due.due("its keeper", y.count(0, 2), 2);
     }
 
+    /** What is reckoned once and kept ready must not outlive what it was reckoned from. */
+    private static void noTreeOutlivesBack() {
+        GlassLog x = new GlassLog();
+        x.open(1);
+        int due = treeOfTwo(x, 7);
+        GlassLog y = new GlassLog();
+        y.image();
+        y.open(1);
+        treeOfTwo(y, 12);
+        y.back();
+        y.open(1);
+        Due.due("tree of a log opened after back()", treeOfTwo(y, 7), due);
+        GlassLog z = new GlassLog();
+        z.open(1);
+        z.image();
+        treeOfTwo(z, 12);
+        z.back();
+        Due.due("tree of a log that back() emptied", treeOfTwo(z, 7), due);
+    }
+
+    private static int treeOfTwo(GlassLog x, int key) {
+        x.add(0, key, 1L);
+        x.add(0, 9, 1L);
+        return x.head(0, 2, 1, 0);
+    }
+
     public static void main(String[] args) {
         promise31All();
         promises32And33ImageBack();
         whatIsNotSeenComesBackToo();
         theLatestImageCounts();
+        noTreeOutlivesBack();
         Due.end();
     }
 }
