@@ -1,0 +1,18 @@
+/**
+ * The edges that the document names, by its own words: each term and each promise, too small, too large,
+ * empty, full, round, refused. No word of the document's terms and promises may be without a test.
+ */
+public final class EdgesTest {
+    private EdgesTest() { }
+
+    public static void main(String[] args) {
+        TermEdges.run();
+        LogEdges.run();
+        ProofEdges.run();
+        ReaderEdges.run();
+        WatcherEdges.run();
+        HouseEdges.run();
+        Document.end();
+        Due.end();
+    }
+}
