@@ -10,6 +10,7 @@ final class HouseEdges {
         promise32Image();
         promise33Back();
         promise33BackUndoesEachCall();
+        promise33BackAndOn();
         promise33BackToFull();
         promise33BackWithoutImage();
     }
@@ -84,8 +85,41 @@ final class HouseEdges {
                 .undone(1, "take(1, 1, 3) take(0, 0, 6) take(0, 2, 0) take(4, 0, 0) take(11, 2, 2)")
                 .undone(1, "talk(1, 2)").undone(0, "talk(0, 2) take(0, 1, 5)")
                 .undone(1, "smear(0, 0, 1) smear(1, 7, MIN)")
-                .undone(1, "watcher(0, 0, 0, 9) watcher(0, 0, 1, 1) watcher(5, 1, 0, 8) watcher(7, 0, 0, 9)")
+                .undone(1, "watcher(0, 0, 0, 9) watcher(0, 0, 0, 1) watcher(0, 0, 3, 9) watcher(5, 1, 9, 9)")
+                .undone(1, "watcher(5, 0, 0, 9) watcher(6, 1, -10, 10) watcher(7, 0, 0, 9)")
                 .undone(1, "watch(0) watch(5)");
+    }
+
+    /** What comes anew behind back() has nothing of what stood in its place. */
+    private static void promise33BackAndOn() {
+        String words = "All is as it was at the latest image()";
+        Edge.promise(33, words)
+                .given("open(0) add(0, 1, 1) image() add(0, 2, 1) add(0, 3, 1) keep(0, 1) prune(0, 3)")
+                .due(1, "back()").due(2, "add(0, 4, 1)").due(3, "add(0, 5, 1)")
+                .row("count(0, #)", 3, 0, 0, 3, 0, 0)
+                .due(2, "within(0, 0, 3, 0)").due(2, "within(0, 0, 3, 1)").due(1, "within(0, 0, 3, 2)")
+                .due(3, "prune(0, 3)");
+        // LOG 2, once a fork of LOG 0, then of LOG 1, then opened: with other KEYS, MAPS and TREES each time.
+        Edge.promise(33, words)
+                .given("open(0) add(0, 7, 1) add(0, 8, 1) add(0, 9, 1) open(1) add(1, 3, 1) add(1, 12, 1) "
+                        + "add(1, 8, 1) image()")
+                .given("fork(0, 3) hide(2, 7) head(2, 3, 1, 0) add(2, 3, 1)")
+                .due(1, "back()").due(2, "fork(1, 3)")
+                .like("head(2, 3, 2, 0)", "head(1, 3, 2, 0)")
+                .row("count(2, #)", 3, 0, 1, 3, 0, 0)
+                .given("take(0, 1, 3) held(0, 2, 3, 3) absent(1, 2, 3, 7)").dues(1, "check(0, 0, 0) check(1, 0, 0)")
+                .given("lag(2, 5) head(2, 3, 1, 0)")
+                .due(1, "back()").due(2, "open(3)").row("count(2, #)", 0, 0, 3, 0, 0, 0)
+                .given("add(2, 12, 1) add(2, 3, 1) add(2, 9, 1) take(1, 2, 3) held(0, 2, 3, 3) absent(1, 2, 3, 8)")
+                .dues(1, "check(0, 1, 0) check(1, 1, 0)")
+                .stays(NONE, "held(2, 2, 3, 8) latest(2, 3, 7)");
+        // KEYS that were there before count no more: with them these would be more than 400.
+        Edge.promise(33, words)
+                .given("image() open(0) " + Calls.times(200, "add(0, #, 1)"))
+                .due(1, "back()").due(0, "open(0)")
+                .given(Calls.times(1000, 1201, "add(0, #, 1)"))
+                .row("count(0, #)", 201, 0, 0, 201, 0, 0)
+                .due(200, "latest(0, 201, 1200)").due(NONE, "latest(0, 201, 199)");
     }
 
     private static void promise33BackToFull() {

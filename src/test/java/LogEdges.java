@@ -103,6 +103,11 @@ final class LogEdges {
                 .refused("add(0, 1, 1) add(1, 1, 1) add(2, 1, 1)")
                 .due(400, "prune(0, 400)")
                 .refused("add(0, 1, 1)");
+        // A KEY of the face that it was forked from takes no place in it.
+        Edge.promise(3, "400 entries.")
+                .given("open(0) add(0, -5, 1) fork(0, 0) " + Calls.times(399, "add(1, #, 1)"))
+                .due(400, "add(1, 399, 1)").due(400, "count(1, 3)").due(399, "latest(1, 400, 399)")
+                .refused("add(1, 400, 1)");
     }
 
     private static void promise4Fork() {

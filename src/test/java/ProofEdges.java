@@ -18,6 +18,7 @@ final class ProofEdges {
         term3Grown();
         term3Held();
         term3Absent();
+        term3OfCount();
         promise12Within();
         promise13Grown();
         promise14Held();
@@ -153,6 +154,37 @@ final class ProofEdges {
                 .given("open(0) add(0, 0, 1) take(0, 0, 1) absent(0, 0, 1, 5)")
                 .row("proof(0, #)", 4, 0, 1, 0, 0, 5, 0, 0)
                 .due(1, "check(0, 0, 0)");
+    }
+
+    /** Calls that bend a STEP of a PROOF, which is this SUM, into another SUM. */
+    private static String bending(int slot, int s, int[] from, int[] to) {
+        StringBuilder calls = new StringBuilder();
+        for (int j = 0; j < 8; j++) {
+            calls.append("bend(" + slot + ", " + s + ", " + j + ", " + (from[j] ^ to[j]) + ") ");
+        }
+        return calls.toString();
+    }
+
+    /** A HEAD of another count is refused though its TOP, or TREE, is the one that comes out. */
+    private static void term3OfCount() {
+        int[] one = entry(1, 1);
+        int[] two = Model.joined(one, entry(2, 2));
+        String heads = "open(0) add(0, 1, 1) add(0, 2, 2) take(0, 0, 0) take(1, 0, 1) take(2, 0, 2) ";
+        Edge.term(3, "RIGHT for a HEAD: it is of n").given(heads + "span(0, 0, 1, 0, 0)")
+                .due(1, "check(0, 1, 0)")
+                .given(bending(0, 0, one, two)).sum("step(0, 0, #)", two)
+                .due(0, "check(0, 2, 0)").due(0, "check(0, 1, 0)");
+        Edge.term(3, "RIGHT for two HEADS, of m and of n").given(heads + "grown(0, 0, 0, 1) grown(1, 0, 1, 1)")
+                .due(1, "check(0, 0, 1)").due(1, "check(1, 1, 1)")
+                .given(bending(0, 0, one, two) + bending(1, 0, one, two))
+                .due(0, "check(0, 0, 2)").due(0, "check(1, 2, 2)").due(0, "check(1, 1, 2)").due(0, "check(1, 2, 1)");
+        // An entry whose KEY is HIDDEN leaves the TREE as it was.
+        Edge.term(3, "RIGHT for a HEAD of n")
+                .given("open(0) hide(0, 9) add(0, 1, 1) add(0, 9, 9) take(0, 0, 1) take(1, 0, 2)")
+                .like("head(0, 1, 1, 0)", "head(0, 2, 1, 0)")
+                .given("held(0, 0, 1, 1) held(1, 0, 2, 1) absent(2, 0, 1, 5) absent(3, 0, 2, 5)")
+                .dues(1, "check(0, 0, 0) check(1, 1, 0) check(2, 0, 0) check(3, 1, 0)")
+                .dues(0, "check(0, 1, 0) check(1, 0, 0) check(2, 1, 0) check(3, 0, 0)");
     }
 
     // ---- promises

@@ -126,6 +126,14 @@ final class TermEdges {
                 .due(4, "grown(0, 0, 128, 400)").due(9, "grown(0, 0, 255, 256)").due(10, "grown(0, 0, 255, 257)")
                 .due(2, "grown(0, 0, 256, 257)").due(11, "grown(0, 0, 1, 400)")
                 .due(3, "grown(0, 0, 0, 400)").due(3, "span(0, 0, 400, 0, 0)").due(3, "span(0, 0, 400, 400, 400)");
+        // Of each size the first block and the last one that 400 entries have, as the last STEP of GROWN over it.
+        Edge each = Edge.term(1, "the greatest block of 2^r entries from a on").given(Houses.FULL_LOG);
+        for (int size = 1; size <= 256; size *= 2) {
+            for (int from : new int[] {0, (400 / size - 1) * size}) {
+                each.due(Integer.bitCount(from) + 1, "grown(0, 0, " + from + ", " + (from + size) + ")")
+                        .due(sumOf(from, size)[7], "step(0, " + Integer.bitCount(from) + ", 7)");
+            }
+        }
     }
 
     private static void term1Top() {
