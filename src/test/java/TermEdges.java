@@ -26,7 +26,6 @@ final class TermEdges {
         term2Head();
     }
 
-    // No call mixes 8 or 16 words, so that one TURN is enough there is seen of the Model alone.
     private static void term1Mix() {
         Edge.term(1, "MIX of ints w0 .. w(n - 1): eight ints a0 .. a7, aj = (j + 1) * 1640531527 at first. For each "
                 + "k from 0 on: a(k % 8) is exclusive-ored by wk; behind k with k % 8 = 7, and behind the last one "
@@ -50,6 +49,13 @@ final class TermEdges {
                     2140138888, -16133965, 1250477661})
                 .sum("head(0, 3, 2, #)", new int[] {162443997, 418645219, 393375283, 2060580720, -2082806363,
                     1881267183, 17685035, 1474894782});
+        // No call mixes 8 or 16 words, so that one TURN is enough behind the last of them is seen of the Model alone.
+        int[] eight = Model.mix(1, 2, 3, 4, 5, 6, 7, 8);
+        int[] sixteen = Model.mix(1, 2, 3, 4, 5, 6, 7, 8, 9, 10, 11, 12, 13, 14, 15, 16);
+        Due.due("term 1: a0 of eight words", eight[0], -1220346509);
+        Due.due("term 1: a7 of eight words", eight[7], 1141089369);
+        Due.due("term 1: a0 of sixteen words", sixteen[0], -1310584170);
+        Due.due("term 1: a7 of sixteen words", sixteen[7], -2129071944);
     }
 
     private static void term1Entry() {
