@@ -9,8 +9,8 @@ import java.util.regex.Matcher;
 import java.util.regex.Pattern;
 
 /**
- * ../shared/DOC.md by its terms and promises, and which of its words some test has quoted: a test of
- * an edge tells the words that it is for, and words that no test tells are found at the end.
+ * ../shared/DOC.md by what it is, its terms and promises, and which of its words some test has quoted: a
+ * test of an edge tells the words that it is for, and words that no test tells are found at the end.
  */
 final class Document {
     private static final Map<String, String> TEXTS = read();
@@ -26,6 +26,8 @@ final class Document {
             throw new UncheckedIOException(missing);
         }
         Map<String, String> texts = new LinkedHashMap<>();
+        String ahead = all.substring(all.indexOf("## What it is"), all.indexOf("## The public face"));
+        texts.put("what it is", plain(ahead.replace("## What it is", "")));
         String terms = all.substring(all.indexOf("## Terms"), all.indexOf("Ahead of the calls"));
         Matcher term = Pattern.compile("(?ms)^(\\d)\\. (.*?)(?=^\\d\\. |\\z)").matcher(terms);
         while (term.find()) {
@@ -53,9 +55,9 @@ final class Document {
         }
     }
 
-    /** Every word of each term and promise must have been quoted. */
+    /** Every word of what it is, of each term and of each promise must have been quoted. */
     static void end() {
-        Due.due("terms and promises", TEXTS.size(), 4 + 33);
+        Due.due("what it is, terms and promises", TEXTS.size(), 1 + 4 + 33);
         for (Map.Entry<String, String> section : TEXTS.entrySet()) {
             String text = section.getValue();
             boolean[] marks = QUOTED.getOrDefault(section.getKey(), new boolean[text.length()]);

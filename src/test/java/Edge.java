@@ -16,6 +16,10 @@ final class Edge {
         name = section + ", '" + words + "': ";
     }
 
+    static Edge ahead(String words) {
+        return new Edge("what it is", words);
+    }
+
     static Edge promise(int number, String words) {
         return new Edge("promise " + number, words);
     }
